@@ -49,6 +49,7 @@ public final class ArtIndex {
     private int root = NIL;
 
     public ArtIndex() {
+        // Arrays of zeros are the empty index already.
     }
 
     public int put(int key, int value) {

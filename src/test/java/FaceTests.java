@@ -114,13 +114,13 @@ public final class FaceTests {
             must(!line.contains("new ") || isField, "arrays are made in fields' initialisers (rule 4): " + line.trim());
         }
         must(!Pattern.compile("\\b(while|do)\\b").matcher(code).find(), "each loop has a counter (rule 8)");
-        // A control word before a parenthesis is no call; two names before one are a call in a call.
+        // A control word before a parenthesis is no call.
         String calls = code.replaceAll("\\b(if|for|switch|return)\\b", ";");
         must(!Pattern.compile("\\w\\((?:[^()]|\\([^()]*\\))*?\\w\\(").matcher(callsOnly(calls)).find(),
                 "no call stands in another's arguments (rule 10)");
     }
 
-    /** The code with headers of methods and loops cut away, so that what is left in a line are calls. */
+    /** The code without the headers of its methods, which look like calls. */
     private static String callsOnly(String code) {
         StringBuilder left = new StringBuilder();
         for (String line : code.split("\n")) {
@@ -158,7 +158,10 @@ public final class FaceTests {
         }
         Matcher m = Pattern.compile("(?s)\\n    (?:public|private) [\\w ]*\\b" + name
                 + "\\([^)]*\\) \\{\\n(.*?)\\n    \\}\\n").matcher(code);
-        must(m.find(), name + " is found in the source");
+        if (!m.find()) {
+            must(false, name + " is found in the source");
+            return above;
+        }
         int deepest = above + 1;
         for (String called : calledIn(m.group(1), names)) {
             deepest = Math.max(deepest, depthOfCalls(called, code, names, above + 1));
