@@ -1056,7 +1056,7 @@ public final class BoundaryTests {
         test("Terms", "each a number from 0 to 65535", BoundaryTests::everyNumberFrom0To65535IsAKey);
         test("Terms", "a value, which is any int", BoundaryTests::everyIntIsAValue);
         test("Terms", "No key is in it twice", BoundaryTests::noKeyIsInItTwice);
-        test("Terms", "the number of keys that are smaller", BoundaryTests::theRankIsTheNumberOfSmallerKeys);
+        test("Terms", "in the index that are smaller", BoundaryTests::theRankIsTheNumberOfSmallerKeys);
         test("Terms", "unless d is 4, their next digits differ", BoundaryTests::keysShareTheirFirstDigitsAlone);
         test("Promise 1", "The empty index", BoundaryTests::aNewObjectIsEmpty);
         test("Promise 1", "The empty index (beside a full one)", BoundaryTests::objectsAreApart);
@@ -1118,8 +1118,8 @@ public final class BoundaryTests {
         test("Promise 13", "d from 0 to 4 (no digits)", BoundaryTests::sumUnderNoDigitsIsTheSumOfAll);
         test("Promise 13", "as a long", BoundaryTests::sumUnderIsALong);
         test("Promise 13", "0 for d outside 0..4", BoundaryTests::sumUnderDOutside);
-        test("Promise 13", "0 for key outside 0..65535", BoundaryTests::sumUnderKeyOutside);
-        test("Promise 13", "0 for d outside 0..4 or key outside (both)", BoundaryTests::sumUnderBothOutside);
+        test("Promise 13", "or key outside 0..65535", BoundaryTests::sumUnderKeyOutside);
+        test("Promise 13", "0 for d outside 0..4 or key outside 0..65535", BoundaryTests::sumUnderBothOutside);
         test("Promise 14", "BAD is tested before NONE", BoundaryTests::sharedDigitsTestsBadBeforeNone);
     }
 
