@@ -104,7 +104,8 @@ public final class FaceTests {
 
     private static void words(String code) {
         String banned = "import|package|float|double|String|Math|Integer|Long|System|Arrays|Object|null|throw|throws"
-                + "|try|catch|finally|synchronized|assert|instanceof|class\\s+(?!ArtIndex\\b)|interface|enum|record";
+                + "|try|catch|finally|synchronized|assert|instanceof|class\\s+(?!ArtIndex\\b)|interface|enum|record"
+                + "|getClass|hashCode|equals|toString|clone|notify|notifyAll|wait";
         Matcher m = Pattern.compile("\\b(" + banned + ")\\b|->|::|\"").matcher(code);
         while (m.find()) {
             must(false, "'" + m.group() + "' is not used (rules 1, 2, 3, 4, 6)");
@@ -114,10 +115,26 @@ public final class FaceTests {
             must(!line.contains("new ") || isField, "arrays are made in fields' initialisers (rule 4): " + line.trim());
         }
         must(!Pattern.compile("\\b(while|do)\\b").matcher(code).find(), "each loop has a counter (rule 8)");
+        loops(code);
         // A control word before a parenthesis is no call.
         String calls = code.replaceAll("\\b(if|for|switch|return)\\b", ";");
         must(!Pattern.compile("\\w\\((?:[^()]|\\([^()]*\\))*?\\w\\(").matcher(callsOnly(calls)).find(),
                 "no call stands in another's arguments (rule 10)");
+    }
+
+    /** Each loop counts up to a bound, and no line but its head changes the counter. */
+    private static void loops(String code) {
+        Matcher loop = Pattern.compile("(?s)\\n( *)for \\((.*?)\\) \\{\\n(.*?)\\n\\1\\}").matcher(code);
+        int found = 0;
+        for (int from = 0; loop.find(from); from = loop.end(2)) {
+            found++;
+            Matcher head = Pattern.compile("int (\\w+) = \\w+; \\1 <=? \\w+( && .*)?; \\1\\+\\+").matcher(loop.group(2));
+            boolean counts = head.matches();
+            must(counts, "a loop counts up to a bound (rule 8): " + loop.group(2));
+            must(!counts || !Pattern.compile("\\b" + head.group(1) + "(\\+\\+|--| [-+*/%&|^<>]*= )")
+                    .matcher(loop.group(3)).find(), "a counter is left alone (rule 8): " + loop.group(2));
+        }
+        must(found == code.split("\\bfor\\b", -1).length - 1, "every loop is found in the source");
     }
 
     /** The code without the headers of its methods, which look like calls. */
